@@ -1,0 +1,224 @@
+import java.util.HashSet;
+import java.util.Set;
+
+/** Promises 12 to 18: spanning trees. */
+public final class SpanningTreeTest {
+    private static final Check CHECK = new Check();
+    private static final int LOWEST = Integer.MIN_VALUE, HIGHEST = Integer.MAX_VALUE;
+
+    public static void main(String[] args) {
+        codes();
+        joined();
+        eachTreeHasOneCode();
+        way();
+        stretch();
+        spread();
+        best();
+        bestIsFull();
+        grow();
+        growTooFar();
+        CHECK.finish();
+    }
+
+    /** CODE 7 is 1 3, and joins 0 1, 1 3 and 2 3: of 2, 3 and 5 here. */
+    private static HugTrees four() {
+        return Check.table(4, 2, 4, 10, 6, 3, 5);
+    }
+
+    private static void codes() {
+        int[] want = {1, 3, 16, 125, 1296};
+        HugTrees x = new HugTrees();
+        for (int n = 6; n >= 2; n--) {
+            x.points(n);
+            CHECK.due("codes() of " + n, x.codes(), want[n - 2]);
+        }
+    }
+
+    private static void dueJoins(int n, int code, int... pairs) {
+        HugTrees x = new HugTrees();
+        x.points(n);
+        for (int i = 0; i < n; i++) {
+            for (int j = 0; j < n; j++) {
+                int want = 0;
+                for (int p = 0; p < pairs.length; p += 2) {
+                    boolean one = pairs[p] == i && pairs[p + 1] == j;
+                    boolean other = pairs[p] == j && pairs[p + 1] == i;
+                    want = one || other ? 1 : want;
+                }
+                CHECK.due(n + " points: joined(" + code + ", " + i + ", " + j + ")", x.joined(code, i, j), want);
+            }
+        }
+    }
+
+    private static void joined() {
+        dueJoins(2, 0, 0, 1);
+        dueJoins(3, 0, 0, 1, 0, 2);
+        dueJoins(3, 1, 0, 1, 1, 2);
+        dueJoins(3, 2, 0, 2, 1, 2);
+        dueJoins(4, 7, 0, 1, 1, 3, 2, 3);
+        dueJoins(4, 13, 0, 3, 2, 1, 1, 3);
+        dueJoins(4, 15, 0, 3, 1, 3, 2, 3);
+        dueJoins(5, 3 * 25 + 3 * 5 + 4, 0, 3, 1, 3, 2, 4, 3, 4);
+        dueJoins(6, 0, 0, 1, 0, 2, 0, 3, 0, 4, 0, 5);
+        dueJoins(6, 1 * 216 + 2 * 36 + 3 * 6 + 4, 0, 1, 1, 2, 2, 3, 3, 4, 4, 5);
+        refuseAll("joined", HugTrees::joined);
+    }
+
+    private interface OfCodeAndTwo {
+        int call(HugTrees x, int code, int i, int j);
+    }
+
+    /** The CODE is looked at first, then the POINTS. */
+    private static void refuseAll(String name, OfCodeAndTwo face) {
+        HugTrees x = four();
+        for (int code : new int[] {16, -1, 1296, LOWEST, HIGHEST}) {
+            CHECK.refused(x, name + "(" + code + ", 0, 1)", () -> face.call(x, code, 0, 1), HugTrees.OUTSIDE);
+            CHECK.refused(x, name + "(" + code + ", 4, 1)", () -> face.call(x, code, 4, 1), HugTrees.OUTSIDE);
+        }
+        for (int k : new int[] {4, -1, 6, LOWEST, HIGHEST}) {
+            CHECK.refused(x, name + "(15, " + k + ", 0)", () -> face.call(x, 15, k, 0), HugTrees.UNKNOWN);
+            CHECK.refused(x, name + "(15, 0, " + k + ")", () -> face.call(x, 15, 0, k), HugTrees.UNKNOWN);
+        }
+    }
+
+    private static void eachTreeHasOneCode() {
+        for (int n = 2; n <= 6; n++) {
+            HugTrees x = new HugTrees();
+            x.points(n);
+            Set<String> trees = new HashSet<>();
+            for (int code = 0; code < x.codes(); code++) {
+                StringBuilder joins = new StringBuilder();
+                int many = 0;
+                for (int i = 0; i < n; i++) {
+                    for (int j = i + 1; j < n; j++) {
+                        int one = x.joined(code, i, j);
+                        many += one;
+                        joins.append(one);
+                    }
+                }
+                CHECK.due("JOINS of " + n + ", " + code, many, n - 1);
+                trees.add(joins.toString());
+            }
+            CHECK.due("trees of " + n, trees.size(), x.codes());
+        }
+    }
+
+    private static void way() {
+        HugTrees x = four();
+        int[][] want = {{0, 2, 10, 5}, {2, 0, 8, 3}, {10, 8, 0, 5}, {5, 3, 5, 0}};
+        for (int i = 0; i < 4; i++) {
+            for (int j = 0; j < 4; j++) {
+                CHECK.due("way(7, " + i + ", " + j + ")", x.way(7, i, j), want[i][j]);
+            }
+        }
+        CHECK.dueTable("way changes nothing", x, 2, 4, 10, 6, 3, 5);
+        HugTrees y = new HugTrees();
+        y.set(0, 1, 77);
+        CHECK.due("way(0, 1, 0) of two", y.way(0, 1, 0), 77);
+        HugTrees z = new HugTrees();
+        z.points(6);
+        for (int i = 0; i < 5; i++) {
+            z.set(i, i + 1, 1000);
+        }
+        CHECK.due("the longest way", z.way(1 * 216 + 2 * 36 + 3 * 6 + 4, 0, 5), 5000);
+        CHECK.due("the longest stretch", z.stretch(1 * 216 + 2 * 36 + 3 * 6 + 4, 0), 5000);
+        refuseAll("way", HugTrees::way);
+    }
+
+    private static void dueStretch(String call, HugTrees x, int code, int above, int below) {
+        CHECK.due(call + ": stretch(" + code + ", 0)", x.stretch(code, 0), above);
+        CHECK.due(call + ": stretch(" + code + ", 1)", x.stretch(code, 1), below);
+    }
+
+    private static void stretch() {
+        dueStretch("10 by 4", four(), 7, 5, 2);
+        dueStretch("two points", Check.table(2, 700), 0, 1, 1);
+        dueStretch("no way is longer", Check.table(3, 3, 1000, 4), 1, 1, 1);
+        dueStretch("already lowest", Check.table(3, 300, 500, 401), 0, 800, 401);
+        dueStretch("a whole number", Check.table(3, 300, 500, 400), 0, 2, 1);
+        dueStretch("close: 7 by 5 and 10 by 7", Check.table(4, 3, 4, 6, 5, 7, 7), 0, 10, 7);
+        HugTrees x = four();
+        for (int code : new int[] {16, -1, LOWEST, HIGHEST}) {
+            for (int part = -1; part < 3; part++) {
+                int asked = part;
+                CHECK.refused(x, "stretch(" + code + ", " + part + ")", () -> x.stretch(code, asked), -102);
+            }
+        }
+        for (int part : new int[] {2, -1, LOWEST, HIGHEST}) {
+            CHECK.refused(x, "stretch(7, " + part + ")", () -> x.stretch(7, part), -102);
+        }
+    }
+
+    private static void spread() {
+        HugTrees x = four();
+        CHECK.due("spread(7)", x.spread(7), 2 + 10 + 5 + 8 + 3 + 5);
+        CHECK.due("spread(0)", x.spread(0), 3 * (2 + 4 + 10));
+        CHECK.due("spread(0) of two", Check.table(2, 31).spread(0), 31);
+        for (int code : new int[] {16, -1, LOWEST, HIGHEST}) {
+            CHECK.refused(x, "spread(" + code + ")", () -> x.spread(code), HugTrees.OUTSIDE);
+        }
+    }
+
+    private static void best() {
+        HugTrees chain = Check.table(3, 1, 2, 1);
+        CHECK.due("best(0) of a chain", chain.best(0), 1);
+        CHECK.due("best(1) of a chain", chain.best(1), 1);
+        CHECK.due("best is counted", chain.count(3), 2);
+        HugTrees square = Check.table(4, 1, 2, 1, 1, 2, 1);
+        CHECK.due("best(0) of a square", square.best(0), 0);
+        CHECK.due("best(1) of a square", square.best(1), 3);
+        CHECK.dueTable("best changes no D", square, 1, 2, 1, 1, 2, 1);
+        HugTrees six = new HugTrees();
+        six.points(6);
+        CHECK.due("best(0) of like ones", six.best(0), 0);
+        CHECK.due("best(1) of like ones", six.best(1), 0);
+        for (int i = 0; i < 5; i++) {
+            for (int j = i + 1; j < 5; j++) {
+                six.set(i, j, 2);
+            }
+        }
+        CHECK.due("best(0) of the last CODE", six.best(0), 1295);
+        CHECK.due("best(1) of the last CODE", six.best(1), 1295);
+        CHECK.due("best(0) of two", new HugTrees().best(0), 0);
+        CHECK.due("best(1) of two", new HugTrees().best(1), 0);
+    }
+
+    private static void bestIsFull() {
+        HugTrees x = Check.table(3, 1, 2, 1);
+        for (int which : new int[] {2, -1, LOWEST, HIGHEST}) {
+            CHECK.refused(x, "best(" + which + ")", () -> x.best(which), HugTrees.OUTSIDE);
+        }
+        for (int time = 1; time <= 60; time++) {
+            CHECK.due("best, time " + time, x.best(time % 2), 1);
+            CHECK.due("count(3), time " + time, x.count(3), time);
+        }
+        CHECK.refused(x, "best(0), time 61", () -> x.best(0), HugTrees.FULL);
+        CHECK.refused(x, "best(1), time 61", () -> x.best(1), HugTrees.FULL);
+        CHECK.refused(x, "best(2), time 61", () -> x.best(2), HugTrees.OUTSIDE);
+        x.points(3);
+        CHECK.refused(x, "best(0) after points", () -> x.best(0), HugTrees.FULL);
+    }
+
+    private static void grow() {
+        HugTrees x = four();
+        CHECK.due("grow(7)", x.grow(7), 3);
+        CHECK.dueTable("grow(7)", x, 2, 10, 5, 8, 3, 5);
+        CHECK.due("grow: is(2)", x.is(2), 1);
+        CHECK.due("grow(7) again", x.grow(7), 0);
+        CHECK.due("grow(0) of two", new HugTrees().grow(0), 0);
+        for (int code : new int[] {16, -1, LOWEST, HIGHEST}) {
+            CHECK.refused(x, "grow(" + code + ")", () -> x.grow(code), HugTrees.OUTSIDE);
+        }
+    }
+
+    private static void growTooFar() {
+        HugTrees x = Check.table(3, 500, 7, 501);
+        CHECK.refused(x, "grow(1) to 1001", () -> x.grow(1), HugTrees.STATE);
+        CHECK.refused(x, "grow(3) to nothing", () -> x.grow(3), HugTrees.OUTSIDE);
+        CHECK.due("grow(0)", x.grow(0), 1);
+        CHECK.dueTable("grow(0)", x, 500, 7, 507);
+        x.set(1, 2, 500);
+        CHECK.due("grow(1) to 1000", x.grow(1), 1);
+        CHECK.dueTable("grow(1) to 1000", x, 500, 1000, 500);
+    }
+}
