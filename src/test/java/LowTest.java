@@ -25,6 +25,7 @@ public final class LowTest {
             }
         }
         CHECK.dueTable("low changes nothing", x, 5, 100, 90, 3, 80, 4);
+        CHECK.due("low(1, 2) by POINT 0", Check.table(3, 2, 3, 9).low(1, 2), 3);
         HugTrees y = new HugTrees();
         y.set(0, 1, 1000);
         CHECK.due("low(0, 1) of two", y.low(0, 1), 1000);

@@ -164,6 +164,13 @@ public final class SpanningTreeTest {
         CHECK.due("best(0) of a chain", chain.best(0), 1);
         CHECK.due("best(1) of a chain", chain.best(1), 1);
         CHECK.due("best is counted", chain.count(3), 2);
+        // By D of 0 1, 0 2 and 1 2: CODE 0 stretches 1 2, CODE 1 0 2, CODE 2 0 1.
+        CHECK.due("best(0) of 8 by 4, 7 by 5, 9 by 3", Check.table(3, 3, 5, 4).best(0), 1);
+        CHECK.due("best(0) of 11 by 6, 13 by 5, 12 by 7", Check.table(3, 7, 5, 6).best(0), 2);
+        CHECK.due("best(0) of 300 by 200, 400 by 100, 300 by 200", Check.table(3, 200, 100, 200).best(0), 0);
+        CHECK.due("best(0) of 599 by 400, 698 by 301, 701 by 298", Check.table(3, 298, 301, 400).best(0), 0);
+        CHECK.due("best(1) of 3 5 4", Check.table(3, 3, 5, 4).best(1), 1);
+        CHECK.due("best(1) of 7 5 6", Check.table(3, 7, 5, 6).best(1), 2);
         HugTrees square = Check.table(4, 1, 2, 1, 1, 2, 1);
         CHECK.due("best(0) of a square", square.best(0), 0);
         CHECK.due("best(1) of a square", square.best(1), 3);
@@ -212,6 +219,16 @@ public final class SpanningTreeTest {
     }
 
     private static void growTooFar() {
+        HugTrees six = new HugTrees();
+        six.points(6);
+        for (int i = 0; i < 5; i++) {
+            six.set(i, 5, 500 + i / 4);
+        }
+        CHECK.refused(six, "six: grow(1295) to 1001", () -> six.grow(1295), HugTrees.STATE);
+        six.set(4, 5, 500);
+        CHECK.due("six: grow(1295) to 1000", six.grow(1295), 10);
+        six.points(5);
+        CHECK.due("grow(0) after more points", six.grow(0), 6);
         HugTrees x = Check.table(3, 500, 7, 501);
         CHECK.refused(x, "grow(1) to 1001", () -> x.grow(1), HugTrees.STATE);
         CHECK.refused(x, "grow(3) to nothing", () -> x.grow(3), HugTrees.OUTSIDE);

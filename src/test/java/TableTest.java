@@ -140,6 +140,9 @@ public final class TableTest {
         CHECK.due("mend: 3 to 0", y.get(3, 0), 500);
         CHECK.due("mend: 1 to 2", y.get(1, 2), 200);
         CHECK.due("mend: is(0)", y.is(0), 1);
+        HugTrees byFirst = Check.table(3, 2, 3, 9);
+        CHECK.due("mend() by POINT 0", byFirst.mend(), 1);
+        CHECK.dueTable("mend by POINT 0", byFirst, 2, 3, 5);
         HugTrees z = new HugTrees();
         z.set(0, 1, 1000);
         CHECK.due("mend() of two", z.mend(), 0);

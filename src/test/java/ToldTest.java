@@ -18,6 +18,10 @@ public final class ToldTest {
         x.set(2, 3, 1000);
         CHECK.due("count(1) of the last pair", x.count(1), 1025);
         CHECK.due("count(2) of the last pair", x.count(2), 1000);
+        x.points(6);
+        x.set(4, 5, 17);
+        CHECK.due("count(1) of six", x.count(1), 31);
+        CHECK.due("count(2) of six", x.count(2), 17);
         x.points(2);
         CHECK.due("count(1) of fewer points", x.count(1), 1);
         CHECK.due("count(2) of fewer points", x.count(2), 1);
