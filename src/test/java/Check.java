@@ -1,5 +1,3 @@
-import java.util.function.LongSupplier;
-
 /** Counts and prints the calls whose answer is not the one that is due. */
 final class Check {
     private int calls = 0;
@@ -11,26 +9,6 @@ final class Check {
             wrong++;
             System.out.println(call + " answered " + got + ", due is " + want);
         }
-    }
-
-    /** A refused call answers its number and changes nothing. */
-    void refused(HugTrees x, String call, LongSupplier made, long want) {
-        String before = stateOf(x);
-        due(call, made.getAsLong(), want);
-        String after = stateOf(x);
-        due(call + " changed something", before.equals(after) ? 0 : 1, 0);
-    }
-
-    static String stateOf(HugTrees x) {
-        StringBuilder told = new StringBuilder();
-        int n = x.count(0);
-        told.append(n).append(':').append(x.count(3));
-        for (int i = 0; i < n; i++) {
-            for (int j = 0; j < n; j++) {
-                told.append(' ').append(x.get(i, j));
-            }
-        }
-        return told.append(" digest ").append(x.digest()).toString();
     }
 
     /** An object with n POINTS and D of 0 1, 0 2, .., 1 2, .. */

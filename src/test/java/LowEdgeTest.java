@@ -83,6 +83,7 @@ public final class LowEdgeTest {
         for (int[] row : want) {
             EDGE.keeps("10: groups(" + row[0] + ")", chain(), x -> x.groups(row[0]), row[1]);
         }
+        EDGE.keeps("10: two far ones, each near a third", Edge.of(3, 9, 1, 1), x -> x.groups(1), 1);
     }
 
     private static void groupsBeyondAreOutside() {

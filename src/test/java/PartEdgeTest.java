@@ -27,6 +27,7 @@ public final class PartEdgeTest {
         drawnBeyondIsOutside();
         drawnTellsUnknownFirst();
         goesByTheFirstAndTheLastLot();
+        goesByEachLotOfFour();
         goesFromReachZeroToAThousand();
         goesOfNoPointIsUnknown();
         goesBeyondIsOutside();
@@ -235,6 +236,23 @@ public final class PartEdgeTest {
                 x -> x.goes(1, 119, 2), 5);
         EDGE.keeps("23: lot 120 of six", Edge.of(6, 9, 9, 9, 9, 9, 2, 2, 2, 2, 2, 2, 2, 2, 2, 2),
                 x -> x.goes(5, 120, 2), 1);
+    }
+
+    /** POINT 3 reaches 2 and itself alone: whichever of them comes first in the ORDER. */
+    private static void goesByEachLotOfFour() {
+        int lot = 0;
+        for (int order = 0; order < 4 * 4 * 4; order++) {
+            int first = order / 16;
+            int second = order / 4 % 4;
+            int third = order % 4;
+            if (first == second || first == third || second == third) {
+                continue;
+            }
+            int asked = lot++;
+            int want = first > 1 ? first : second > 1 ? second : third;
+            EDGE.keeps("23: lot " + asked + " of four", Edge.of(4, 1, 1, 6, 1, 6, 5), x -> x.goes(3, asked, 5), want);
+        }
+        EDGE.due("23: lots of four", lot, 24);
     }
 
     private static void goesFromReachZeroToAThousand() {

@@ -24,6 +24,7 @@ public final class SpanningTreeEdgeTest {
         stretchInLowestTerms();
         spreadFromLeastToGreatest();
         bestOfLikeOnesIsTheLeastCode();
+        bestAndClosestMayBeUnlike();
         bestMayBeTheGreatestCode();
         bestAsksZeroAndOne();
         bestIsFullAfterSixtyTimes();
@@ -187,6 +188,7 @@ public final class SpanningTreeEdgeTest {
         dueStretch("2000 by 1000", Edge.alike(3, 1000), 0, 2, 1);
         dueStretch("1500 by 1000", Edge.of(3, 500, 1000, 1000), 0, 3, 2);
         dueStretch("1999 by 1000", Edge.of(3, 999, 1000, 1000), 0, 1999, 1000);
+        dueStretch("10 by 4", Edge.of(3, 4, 6, 4), 0, 5, 2);
         dueStretch("1998 by 999", Edge.alike(3, 999), 0, 2, 1);
         dueStretch("5 by 2 and 10 by 4 are alike", Edge.of(4, 2, 3, 7, 2, 7, 4), 0, 5, 2);
     }
@@ -207,6 +209,13 @@ public final class SpanningTreeEdgeTest {
         EDGE.searches("17: CODES 1 and 2 of like STRETCH", Edge.of(3, 3, 3, 2), 0, 1);
         EDGE.searches("17: CODES 1 and 2 of like SPREAD", Edge.of(3, 3, 3, 2), 1, 1);
         EDGE.searches("17: CODES 0 and 2 of like SPREAD", Edge.of(3, 3, 2, 3), 1, 0);
+    }
+
+    /** All joined with 0 are stretched by 3 at most, as by any chain, but a chain has less SPREAD. */
+    private static void bestAndClosestMayBeUnlike() {
+        Supplier<HugTrees> ring = Edge.of(4, 1, 2, 1, 1, 2, 1);
+        EDGE.searches("17: THE BEST of a ring", ring, 0, 0);
+        EDGE.searches("17: THE CLOSEST of a ring", ring, 1, 3);
     }
 
     private static void bestMayBeTheGreatestCode() {

@@ -1,7 +1,6 @@
 /** Promises 1 to 7: the table. */
 public final class TableTest {
     private static final Check CHECK = new Check();
-    private static final int LOWEST = Integer.MIN_VALUE, HIGHEST = Integer.MAX_VALUE;
 
     public static void main(String[] args) {
         aNewObject();
@@ -10,7 +9,6 @@ public final class TableTest {
         get();
         threes();
         fours();
-        whatIsOutside();
         mend();
         CHECK.finish();
     }
@@ -21,7 +19,6 @@ public final class TableTest {
         CHECK.due("new: count(3)", x.count(3), 0);
         CHECK.due("new: codes()", x.codes(), 1);
         CHECK.dueTable("new", x, 1);
-        CHECK.refused(x, "new: get(0, 2)", () -> x.get(0, 2), HugTrees.UNKNOWN);
     }
 
     private static void points() {
@@ -39,10 +36,6 @@ public final class TableTest {
         x.best(0);
         x.points(4);
         CHECK.due("points: best() stays counted", x.count(3), 1);
-        x.set(1, 2, 9);
-        for (int n : new int[] {1, 7, 0, -1, -2, LOWEST, HIGHEST}) {
-            CHECK.refused(x, "points(" + n + ")", () -> x.points(n), HugTrees.OUTSIDE);
-        }
     }
 
     private static void set() {
@@ -54,26 +47,11 @@ public final class TableTest {
         CHECK.due("set(2, 1, 20)", x.set(2, 1, 20), 1);
         CHECK.due("set(1, 2, 20)", x.set(1, 2, 20), 20);
         CHECK.dueTable("set", x, 1, 1, 1, 20, 1, 1);
-        for (int k : new int[] {4, -1, 6, LOWEST, HIGHEST}) {
-            CHECK.refused(x, "set(" + k + ", 1, 5)", () -> x.set(k, 1, 5), HugTrees.UNKNOWN);
-            CHECK.refused(x, "set(1, " + k + ", 5)", () -> x.set(1, k, 5), HugTrees.UNKNOWN);
-            CHECK.refused(x, "set(" + k + ", 1, 0)", () -> x.set(k, 1, 0), HugTrees.UNKNOWN);
-        }
-        CHECK.refused(x, "set(2, 2, 5)", () -> x.set(2, 2, 5), HugTrees.UNKNOWN);
-        CHECK.refused(x, "set(2, 2, 0)", () -> x.set(2, 2, 0), HugTrees.UNKNOWN);
-        for (int v : new int[] {0, 1001, -1, LOWEST, HIGHEST}) {
-            CHECK.refused(x, "set(0, 1, " + v + ")", () -> x.set(0, 1, v), HugTrees.OUTSIDE);
-        }
     }
 
     private static void get() {
         HugTrees x = Check.table(3, 4, 5, 6);
         CHECK.dueTable("get", x, 4, 5, 6);
-        for (int k : new int[] {3, -1, 6, LOWEST, HIGHEST}) {
-            CHECK.refused(x, "get(" + k + ", 0)", () -> x.get(k, 0), HugTrees.UNKNOWN);
-            CHECK.refused(x, "get(0, " + k + ")", () -> x.get(0, k), HugTrees.UNKNOWN);
-            CHECK.refused(x, "get(" + k + ", " + k + ")", () -> x.get(k, k), HugTrees.UNKNOWN);
-        }
     }
 
     private static void dueTests(String table, HugTrees x, int... isThenBroken) {
@@ -102,20 +80,6 @@ public final class TableTest {
         dueTests("i, l and j, k greatest", Check.table(4, 2, 2, 3, 2, 2, 2), 1, 0, 0, 0, 2, 1);
         dueTests("one far pair of six", Check.table(6, 2, 1, 1, 1, 1, 1, 1, 1, 1, 1, 1, 1, 1, 1, 1), 1, 0, 0, 0, 4, 6);
         dueTests("a tree's", Check.table(4, 5, 7, 8, 6, 7, 5), 1, 0, 1, 0, 4, 0);
-    }
-
-    private static void whatIsOutside() {
-        HugTrees x = Check.table(3, 1, 3, 1);
-        for (int what : new int[] {3, -1, 4, LOWEST, HIGHEST}) {
-            CHECK.refused(x, "is(" + what + ")", () -> x.is(what), HugTrees.OUTSIDE);
-            CHECK.refused(x, "broken(" + what + ")", () -> x.broken(what), HugTrees.OUTSIDE);
-        }
-        for (int what = 0; what < 3; what++) {
-            String before = Check.stateOf(x);
-            x.is(what);
-            x.broken(what);
-            CHECK.due("is, broken change something", before.equals(Check.stateOf(x)) ? 0 : 1, 0);
-        }
     }
 
     private static void mend() {

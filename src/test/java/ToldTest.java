@@ -25,9 +25,6 @@ public final class ToldTest {
         x.points(2);
         CHECK.due("count(1) of fewer points", x.count(1), 1);
         CHECK.due("count(2) of fewer points", x.count(2), 1);
-        for (int what : new int[] {4, -1, Integer.MIN_VALUE, Integer.MAX_VALUE}) {
-            CHECK.refused(x, "count(" + what + ")", () -> x.count(what), HugTrees.OUTSIDE);
-        }
     }
 
     private static long hashed(long... numbers) {
