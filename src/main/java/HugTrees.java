@@ -460,10 +460,12 @@ public final class HugTrees {
 
         private void readFigures(int code) {
             Arrays.fill(hangs, 1);
+            int base = table.n;
             int left = code;
-            for (int s = table.n - 3; s >= 0; s--) {
-                kept[s] = left % table.n;
-                left /= table.n;
+            // For two POINTS there is no figure, so base is 3 at least where it divides.
+            for (int s = base - 3; s >= 0; s--) {
+                kept[s] = left % base;
+                left /= base;
                 hangs[kept[s]]++;
             }
         }
@@ -666,25 +668,27 @@ public final class HugTrees {
             int undealt = (1 << table.n) - 1;
             int left = lot;
             for (int more = table.n - 1; more >= 0; more--) {
-                int point = undealtAt(undealt, left / FACTORIALS[more]);
+                // So many lots begin with each undealt POINT.
+                int each = FACTORIALS[more];
+                int point = nextDealt(undealt, left, each);
                 if (table.d[i][point] <= r) {
                     return point;
                 }
+                left -= each * Integer.bitCount(undealt & ((1 << point) - 1));
                 undealt &= ~(1 << point);
-                left %= FACTORIALS[more];
             }
             return i;
         }
 
-        /** The undealt POINT that has so many undealt ones before it. */
-        private int undealtAt(int undealt, int before) {
-            int toPass = before;
+        /** The undealt POINT among whose lots is the one that has so many before it. */
+        private int nextDealt(int undealt, int before, int each) {
+            int left = before;
             for (int k = 0; k < table.n; k++) {
                 if (((undealt >> k) & 1) == 1) {
-                    if (toPass == 0) {
+                    if (left < each) {
                         return k;
                     }
-                    toPass--;
+                    left -= each;
                 }
             }
             return 0;
